@@ -707,8 +707,9 @@ public final class LozengeGrounds {
         }
 
         void countHither(Land land) {
-            Arrays.fill(hither, 0, nodes, 0L);
-            hither[0] = 1;
+            for (int node = 0; node < nodes; node++) {
+                hither[node] = node == 0 ? 1 : 0;
+            }
             for (int node = 0; node < first[land.cells]; node++) {
                 for (int kind = 0; kind < KINDS; kind++) {
                     int to = next[node * KINDS + kind];
@@ -749,7 +750,9 @@ public final class LozengeGrounds {
 
         /** What the way that is worth most is worth, from each node on; there must be a LAYING. */
         int rank(Land land, int[] worth) {
-            Arrays.fill(best, first[land.cells], nodes, 0);
+            for (int node = first[land.cells]; node < nodes; node++) {
+                best[node] = 0;
+            }
             for (int cell = land.cells - 1; cell >= 0; cell--) {
                 for (int node = first[cell]; node < first[cell + 1]; node++) {
                     int greatest = Integer.MIN_VALUE;
