@@ -751,7 +751,44 @@ public final class PromisesTest {
         due(33, "asked first", only(3, 3, 8).barred(0), 4);
     }
 
+    /** 8 by 8, all IN: bits of the last CELL, and none behind it. */
+    private static void largest() {
+        LozengeGrounds x = ground(8, 8);
+        due(14, "weight of the last CELL", x.weight(63, 0, 5), 0);
+        due(14, "weight behind the last CELL", x.weight(64, 0, 5), UNKNOWN);
+        x.weight(0, 0, 7);
+        x.weight(0, 1, 50);
+        due(15, "8 by 8", x.dearest(), 12);
+        due(17, "8 by 8", x.layDearest(0), 12);
+        due(16, "8 by 8", x.lay(1, 0), 1);
+        due(16, "8 by 8", x.lay(2, 1), OUTSIDE);
+        for (int slot = 0; slot < 2; slot++) {
+            for (int cell = 0; cell < 64; cell++) {
+                due(20, "8 by 8", x.kind(slot, cell), 0);
+            }
+            due(19, "8 by 8", x.place(slot), 0);
+            due(21, "8 by 8", x.count(slot, 0), 64);
+            due(22, "8 by 8", x.weighs(slot), 12);
+            due(23, "the far corner", x.point(slot, 8, 8), 0);
+            due(23, "behind the far corner", x.point(slot, 9, 8), UNKNOWN);
+            due(28, "8 by 8", x.reach(slot), 1);
+            due(29, "8 by 8", x.mirror(slot), 0);
+        }
+        for (int cell = 0; cell < 64; cell++) {
+            due(10, "8 by 8", x.with(cell, 0), 1);
+            due(11, "8 by 8", x.kinds(cell), 1);
+        }
+        due(12, "8 by 8", x.forced(), 64);
+        due(13, "8 by 8", x.span(0, false), 64);
+        due(26, "8 by 8", x.apart(0, 1), 0);
+        due(27, "8 by 8", x.end(0, true), 0);
+        due(30, "8 by 8", x.most(), 64);
+        due(31, "8 by 8", x.lack(), 0);
+        due(32, "8 by 8", x.bar(), NONE);
+    }
+
     public static void main(String[] args) {
+        largest();
         newObject();
         groundMade();
         hexagonMade();

@@ -278,8 +278,8 @@ public final class ReferenceTest {
     }
 
     /** A ground made of LOZENGES, so that it can be laid. */
-    private static Ground ofLozenges(Random dice, int side) {
-        Ground g = new Ground(1 + dice.nextInt(side), 1 + dice.nextInt(side));
+    private static Ground ofLozenges(Random dice, int w, int h) {
+        Ground g = new Ground(w, h);
         int skip = dice.nextInt(30);
         for (int n = 0; n < 40 * g.w * g.h; n++) {
             int cell = dice.nextInt(g.w * g.h);
@@ -522,8 +522,7 @@ public final class ReferenceTest {
         due("place mirrored", x.place(2), indexOf(all, now), g);
     }
 
-    private static int compare(Ground g, Random dice) {
-        LozengeGrounds x = new LozengeGrounds();
+    private static int compare(LozengeGrounds x, Ground g, Random dice) {
         put(x, g, dice);
         compareGround(x, g);
         compareBars(x, g);
@@ -561,16 +560,19 @@ public final class ReferenceTest {
         Random dice = new Random(20261118);
         int laid = 0;
         int skipped = 0;
-        for (int i = 0; i < 1500; i++) {
-            Ground g = switch (i % 6) {
+        // One object for many grounds: what it kept of one must not be seen on the next.
+        LozengeGrounds used = new LozengeGrounds();
+        for (int i = 0; i < 1750; i++) {
+            Ground g = switch (i % 7) {
                 case 0 -> random(dice, 4);
-                case 1 -> ofLozenges(dice, 5);
-                case 2 -> ofLozenges(dice, 8);
+                case 1 -> ofLozenges(dice, 1 + dice.nextInt(5), 1 + dice.nextInt(5));
+                case 2 -> ofLozenges(dice, 1 + dice.nextInt(8), 1 + dice.nextInt(8));
                 case 3 -> hexagonWithHoles(dice);
                 case 4 -> madeSymmetric(hexagonWithHoles(dice));
+                case 5 -> ofLozenges(dice, 8, 8);
                 default -> random(dice, 8);
             };
-            int size = compare(g, dice);
+            int size = compare(i % 2 == 0 ? used : new LozengeGrounds(), g, dice);
             laid += size > 1 ? 1 : 0;
             skipped += size < 0 ? 1 : 0;
         }
