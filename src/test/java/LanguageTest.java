@@ -14,6 +14,11 @@ import java.util.regex.Pattern;
 /** What of ../shared/LANGUAGE.md can be seen from the text and the face of the class. */
 public final class LanguageTest {
     private static final Path SOURCE = Path.of("src/main/java/LozengeGrounds.java");
+    private static final Path DOCUMENT = Path.of("../shared/DOC.md");
+    private static final Set<Class<?>> FIXED_TYPES = Set.of(int.class, long.class, boolean.class, char.class,
+        String.class, int[].class, long[].class, char[].class, byte[].class);
+    private static final Set<String> LIBRARY = Set.of("Long.bitCount", "Integer.bitCount", "Math.max", "Math.min",
+        "Math.abs", "Arrays.fill", "System.arraycopy");
     private static final String[] FACE = {"int ground(int,int)", "int hexagon(int,int,int)", "int set(int,boolean)",
         "int isIn(int)", "int ups(boolean)", "int size(int)", "long product(int,int,int)", "long layings()",
         "long with(int,int)", "int kinds(int)", "int forced()", "int span(int,boolean)", "int weight(int,int,int)",
@@ -59,7 +64,8 @@ public final class LanguageTest {
         if (LozengeGrounds.class.getDeclaredClasses().length > 11) {
             fault("too many classes");
         }
-        if (LozengeGrounds.class.getConstructors().length != 1 || !Modifier.isFinal(LozengeGrounds.class.getModifiers())) {
+        if (LozengeGrounds.class.getDeclaredConstructors().length != 1
+            || LozengeGrounds.class.getConstructors().length != 1 || !Modifier.isFinal(LozengeGrounds.class.getModifiers())) {
             fault("the constructor or the class is not as told");
         }
     }
@@ -85,12 +91,56 @@ public final class LanguageTest {
             if (fixed && !Modifier.isFinal(f.getModifiers())) {
                 fault(f + " is static and not final");
             }
-            if (face && !fixed && !Modifier.isPrivate(f.getModifiers())) {
+            if (face && !Modifier.isPublic(f.getModifiers()) && !Modifier.isPrivate(f.getModifiers())) {
                 fault(f + " can be seen");
+            }
+            if (fixed && !FIXED_TYPES.contains(f.getType())) {
+                fault(f + " is no constant of an allowed type");
             }
         }
         if (fields > 20) {
             fault(type + " has too many fields");
+        }
+    }
+
+    /** The face as the document's own block tells it, constants with their values. */
+    private static void compareWithDocument(String document) throws IllegalAccessException {
+        int from = document.indexOf("```java");
+        String block = document.substring(from, document.indexOf("```", from + 3));
+        Set<String> told = new TreeSet<>();
+        Matcher constants = Pattern.compile("\\b([A-Z]+) = (-?\\d+)").matcher(block);
+        while (constants.find()) {
+            told.add(constants.group(1) + " " + constants.group(2));
+        }
+        Matcher calls = Pattern.compile("public (\\w+) (\\w+)\\((.*?)\\);").matcher(block);
+        while (calls.find()) {
+            told.add(calls.group(1) + " " + calls.group(2) + "(" + calls.group(3).replaceAll(" \\w+(, )?", ",") + ")");
+        }
+        Set<String> stands = new TreeSet<>();
+        for (Field f : LozengeGrounds.class.getFields()) {
+            stands.add(f.getName() + " " + f.getInt(null));
+        }
+        for (Method m : LozengeGrounds.class.getDeclaredMethods()) {
+            StringBuilder types = new StringBuilder();
+            for (Class<?> type : m.getParameterTypes()) {
+                types.append(type).append(",");
+            }
+            if (Modifier.isPublic(m.getModifiers())) {
+                stands.add(m.getReturnType() + " " + m.getName() + "(" + types + ")");
+            }
+        }
+        if (told.size() != FACE.length + 6 || !told.equals(stands)) {
+            fault("the document tells " + told + ", there stands " + stands);
+        }
+    }
+
+    private static void lookAtLibrary(String text) {
+        Matcher calls = Pattern.compile("\\b([A-Z]\\w*)\\.(\\w+)\\(").matcher(text);
+        while (calls.find()) {
+            String call = calls.group(1) + "." + calls.group(2);
+            if (!LIBRARY.contains(call)) {
+                fault("not of the library: " + call);
+            }
         }
     }
 
@@ -155,9 +205,11 @@ public final class LanguageTest {
         }
     }
 
-    public static void main(String[] args) throws IOException {
+    public static void main(String[] args) throws IOException, IllegalAccessException {
         String text = withoutComments(Files.readString(SOURCE));
         lookAtFace();
+        compareWithDocument(Files.readString(DOCUMENT));
+        lookAtLibrary(text);
         lookAtText(text.replaceFirst("public static final int UNKNOWN[^\n]*", ""));
         lookAtLengths(text.replaceFirst("public static final int UNKNOWN[^\n]*", ""));
         lookAtMaking(text);
